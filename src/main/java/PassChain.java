@@ -110,19 +110,14 @@ public final class PassChain {
   private static final int[] READS_OF = {0, 1, 2, 1, 2, 0, 1, 1, 1, 0, 0, 1, 0};
   private static final int[] FIRST_READ_OF = {0, 1, 1, 1, 0, 0, 0, 0, 0, 0, 0, 0, 0};
 
-  private final char[] text = new char[TEXT_MOST];
-  private int textLength;
+  private final Parser parser = new Parser();
   private final Rows compiled = new Rows();
   private Rows now = new Rows();
   private Rows next = new Rows();
-  private final Parser parser = new Parser(text, next);
-  private final Things things = new Things();
   private final Constants constants = new Constants();
-  private final Names names = new Names(things);
+  private final Names names = new Names();
   private final Mover mover = new Mover();
-  private final Tale toldBefore = new Tale();
-  private final Tale toldAfter = new Tale();
-  private final Walker walker = new Walker(things, now, toldBefore);
+  private final Walker walker = new Walker();
   private final Code letters = new Code();
   private boolean lettersAreNew;
   private final Machine machine = new Machine();
@@ -133,7 +128,7 @@ public final class PassChain {
   }
 
   public boolean put(int word, int n) {
-    if (n < 1 || n > 4 || textLength + n > TEXT_MOST) {
+    if (n < 1 || n > 4 || parser.length + n > TEXT_MOST) {
       return false;
     }
     for (int i = 0; i < n; i++) {
@@ -143,8 +138,7 @@ public final class PassChain {
       }
     }
     for (int i = n - 1; i >= 0; i--) {
-      text[textLength] = (char) byteOf(word, i);
-      textLength++;
+      parser.append((char) byteOf(word, i));
     }
     return true;
   }
@@ -154,9 +148,9 @@ public final class PassChain {
   }
 
   public int compile() throws IllegalArgumentException, IllegalStateException {
-    int length = textLength;
-    textLength = 0;
-    if (!parser.reads(length, next)) {
+    boolean isProgram = parser.reads(next);
+    parser.length = 0;
+    if (!isProgram) {
       throw new IllegalArgumentException("the text is no program");
     }
     if (!next.withinLimits()) {
@@ -202,10 +196,9 @@ public final class PassChain {
   }
 
   private boolean staysIfTheSame() {
-    things.dropTo(0);
-    walker.walk(now, toldBefore);
-    walker.walk(next, toldAfter);
-    if (!walker.areTheSame(toldBefore, toldAfter)) {
+    walker.walk(now, false);
+    walker.walk(next, true);
+    if (!walker.saidTheSame()) {
       refused++;
       return false;
     }
@@ -334,7 +327,7 @@ public final class PassChain {
   public int count(int what) {
     switch (what) {
       case 0:
-        return textLength;
+        return parser.length;
       case 1:
         return now.procedures;
       case 2:
@@ -466,12 +459,6 @@ public final class PassChain {
         row[at + 4] = 0;
         length++;
       }
-    }
-
-    void addWork(int d, int s, int t, int o) {
-      add(WORK, d, s);
-      setNumber(length - 1, 2, t);
-      setNumber(length - 1, 3, o);
     }
 
     void addCopy(Part from, int k) {
@@ -607,33 +594,35 @@ public final class PassChain {
   private static final class Parser {
     private static final char NOTHING = 0;
 
-    private final char[] text;
-    private int length;
+    private final char[] text = new char[TEXT_MOST];
+    int length;
     private int at;
     private boolean failed;
-    private Part part;
-    private int partNumber;
+    private boolean isMain;
     private int callable;
 
-    Parser(char[] text, Rows rows) {
-      this.text = text;
-      this.part = rows.parts[MAIN];
+    void append(char c) {
+      if (length < TEXT_MOST) {
+        text[length] = c;
+        length++;
+      }
     }
 
     /** Whether the text is a program; its items are in rows then, how many ever they are. */
-    boolean reads(int howMany, Rows rows) {
-      length = Math.min(howMany, text.length);
+    boolean reads(Rows rows) {
       at = 0;
       failed = false;
+      isMain = false;
       rows.clear();
       for (int p = 0; p < PROCEDURES && beginsProcedure(p); p++) {
         at++;
-        beginPart(rows, p, p);
+        callable = p;
+        block(rows.parts[p], 1);
         rows.procedures = p + 1;
-        block(1);
       }
-      beginPart(rows, MAIN, rows.procedures);
-      statements(0);
+      isMain = true;
+      callable = rows.procedures;
+      statements(rows.parts[MAIN], 0);
       if (failed || at < length) {
         return false;
       }
@@ -645,12 +634,6 @@ public final class PassChain {
 
     private boolean beginsProcedure(int p) {
       return !failed && peek() == 'P' + p && at + 1 < length && text[at + 1] == '{';
-    }
-
-    private void beginPart(Rows rows, int p, int procedures) {
-      partNumber = p;
-      part = rows.parts[p];
-      callable = procedures;
     }
 
     private char peek() {
@@ -665,31 +648,31 @@ public final class PassChain {
       }
     }
 
-    private void block(int depth) {
+    private void block(Part part, int depth) {
       if (depth > BLOCKS_MOST) {
         failed = true;
         return;
       }
       expect('{');
-      statements(depth);
+      statements(part, depth);
       expect('}');
     }
 
-    private void statements(int depth) {
+    private void statements(Part part, int depth) {
       for (int n = 0; n < TEXT_MOST && !failed && at < length && peek() != '}'; n++) {
-        statement(depth);
+        statement(part, depth);
       }
     }
 
-    private void statement(int depth) {
+    private void statement(Part part, int depth) {
       char c = peek();
       at++;
       switch (c) {
         case 'A':
-          store();
+          store(part);
           break;
         case '!':
-          part.add(PRINT, expression(0), 0);
+          part.add(PRINT, expression(part, 0), 0);
           expect(';');
           break;
         case '?':
@@ -697,28 +680,28 @@ public final class PassChain {
           expect(';');
           break;
         case 'I':
-          choice(depth);
+          choice(part, depth);
           break;
         case 'W':
-          loop(depth);
+          loop(part, depth);
           break;
         case 'P':
         case 'Q':
         case 'R':
-          call(c - 'P');
+          call(part, c - 'P');
           break;
         default:
-          assignment(c);
+          assignment(part, c);
           break;
       }
     }
 
-    private void store() {
+    private void store(Part part) {
       expect('[');
-      int s = expression(0);
+      int s = expression(part, 0);
       expect(']');
       expect('=');
-      int t = expression(0);
+      int t = expression(part, 0);
       expect(';');
       part.add(STORE, s, t);
     }
@@ -736,114 +719,114 @@ public final class PassChain {
       return c >= 'a' && c <= 'f';
     }
 
-    private void choice(int depth) {
-      part.add(IF, expression(0), 0);
-      block(depth + 1);
+    private void choice(Part part, int depth) {
+      part.add(IF, expression(part, 0), 0);
+      block(part, depth + 1);
       part.add(ELSE, 0, 0);
-      block(depth + 1);
+      block(part, depth + 1);
       part.add(END, 0, 0);
     }
 
-    private void loop(int depth) {
+    private void loop(Part part, int depth) {
       part.add(WHILE, 0, 0);
-      part.add(DO, expression(0), 0);
-      block(depth + 1);
+      part.add(DO, expression(part, 0), 0);
+      block(part, depth + 1);
       part.add(END, 0, 0);
     }
 
-    private void call(int p) {
+    private void call(Part part, int p) {
       if (p >= callable) {
         failed = true;
       }
       expect('(');
-      int s = expression(0);
+      int s = expression(part, 0);
       expect(')');
       expect(';');
       part.add(CALL, s, p);
     }
 
-    private void assignment(char v) {
+    private void assignment(Part part, char v) {
       if (!isVariable(v)) {
         failed = true;
       }
       expect('=');
-      part.add(MOVE, v - 'a', expression(0));
+      part.add(MOVE, v - 'a', expression(part, 0));
       expect(';');
     }
 
     /** Each of these answers the register in which the expression stands. */
-    private int expression(int nest) {
-      int left = sum(nest);
+    private int expression(Part part, int nest) {
+      int left = sum(part, nest);
       char c = peek();
       if (failed || c != '<' && c != '=') {
         return left;
       }
       at++;
-      return work(left, sum(nest), c == '<' ? LESS : EQUAL);
+      return work(part, left, sum(part, nest), c == '<' ? LESS : EQUAL);
     }
 
-    private int sum(int nest) {
-      int left = product(nest);
+    private int sum(Part part, int nest) {
+      int left = product(part, nest);
       for (int n = 0; n < TEXT_MOST && !failed && (peek() == '+' || peek() == '-'); n++) {
         int o = peek() == '+' ? ADD : SUBTRACT;
         at++;
-        left = work(left, product(nest), o);
+        left = work(part, left, product(part, nest), o);
       }
       return left;
     }
 
-    private int product(int nest) {
-      int left = factor(nest);
+    private int product(Part part, int nest) {
+      int left = factor(part, nest);
       for (int n = 0; n < TEXT_MOST && !failed && (peek() == '*' || peek() == '/'); n++) {
         int o = peek() == '*' ? MULTIPLY : DIVIDE;
         at++;
-        left = work(left, factor(nest), o);
+        left = work(part, left, factor(part, nest), o);
       }
       return left;
     }
 
-    private int factor(int nest) {
+    private int factor(Part part, int nest) {
       char c = peek();
       if (c >= '0' && c <= '9') {
-        return constant(number());
+        return constant(part, digits());
       }
       at++;
       if (isVariable(c)) {
         return c - 'a';
       }
-      if (c == 'x' && partNumber != MAIN) {
+      if (c == 'x' && !isMain) {
         return X;
       }
       if (failed || nest >= NEST_MOST) {
         failed = true;
         return 0;
       }
-      return nested(c, nest + 1);
+      return nested(part, c, nest + 1);
     }
 
-    private int nested(char c, int nest) {
+    private int nested(Part part, char c, int nest) {
       switch (c) {
         case 'A':
           expect('[');
-          int index = expression(nest);
+          int index = expression(part, nest);
           expect(']');
-          int d = fresh();
+          int d = fresh(part);
           part.add(LOAD, d, index);
           return d;
         case '(':
-          int inside = expression(nest);
+          int inside = expression(part, nest);
           expect(')');
           return inside;
         case '-':
-          int zero = constant(0);
-          return work(zero, factor(nest), SUBTRACT);
+          int zero = constant(part, 0);
+          return work(part, zero, factor(part, nest), SUBTRACT);
         default:
           failed = true;
           return 0;
       }
     }
 
-    private int number() {
+    private int digits() {
       int n = 0;
       for (int i = 0; i < DIGITS_MOST && peek() >= '0' && peek() <= '9'; i++) {
         n = 10 * n + (peek() - '0');
@@ -852,19 +835,21 @@ public final class PassChain {
       return n;
     }
 
-    private int constant(int n) {
-      int d = fresh();
+    private int constant(Part part, int n) {
+      int d = fresh(part);
       part.add(CONST, d, n);
       return d;
     }
 
-    private int work(int s, int t, int o) {
-      int d = fresh();
-      part.addWork(d, s, t, o);
+    private int work(Part part, int s, int t, int o) {
+      int d = fresh(part);
+      part.add(WORK, d, s);
+      part.setNumber(part.length - 1, 2, t);
+      part.setNumber(part.length - 1, 3, o);
       return d;
     }
 
-    private int fresh() {
+    private int fresh(Part part) {
       int d = part.registers;
       part.registers++;
       return d;
@@ -887,7 +872,9 @@ public final class PassChain {
     int fold(Part from, Part to, boolean isMain) {
       to.clear(from.registers);
       Arrays.fill(known, isMain ? 0L : UNKNOWN);
-      Arrays.fill(goes, false);
+      for (int k = 0; k < ITEMS_MOST; k++) {
+        goes[k] = false;
+      }
       level = 0;
       changes = 0;
       for (int k = 0; k < from.length; k++) {
@@ -1036,15 +1023,11 @@ public final class PassChain {
 
   /** The pass COMMON; names are things, made anew wherever each register gets one of its own. */
   private static final class Names {
-    private final Things things;
+    private final Things things = new Things();
     private final int[] nameOf = new int[REGISTERS_MOST];
     private int registers;
     private int stores;
     private int inputs;
-
-    Names(Things things) {
-      this.things = things;
-    }
 
     int share(Part part) {
       registers = Math.min(part.registers, REGISTERS_MOST);
@@ -1148,7 +1131,7 @@ public final class PassChain {
       findNeeded(from, isProcedure);
       to.clear(from.registers);
       for (int k = 0; k < from.length; k++) {
-        if (!from.isHarmless(k) || isNeeded(from.written(k), needed[k + 1])) {
+        if (!from.isHarmless(k) || isNeeded(from.written(k), neededAt(k + 1))) {
           to.addCopy(from, k);
         }
       }
@@ -1176,21 +1159,21 @@ public final class PassChain {
     }
 
     private long neededAhead(Part part, int k) {
-      long behind = needed[k + 1];
+      long behind = neededAt(k + 1);
+      long read = readBits(part, k);
       int mate = part.mate(k);
       switch (part.kind(k)) {
         case IF:
-          return behind | neededAt(mate + 1) | readBits(part, k);
+        case DO:
+          return behind | neededAt(mate + 1) | read;
         case ELSE:
           return neededAt(mate);
-        case DO:
-          return behind | neededAt(mate + 1) | readBits(part, k);
         case END:
           return part.kind(mate) == WHILE ? neededAt(mate) : behind;
         case CALL:
-          return behind | COMMON_BITS | readBits(part, k);
+          return behind | COMMON_BITS | read;
         default:
-          return neededAheadOfPlain(part, k, behind);
+          return neededAheadOfPlain(part, k, behind, read);
       }
     }
 
@@ -1198,15 +1181,15 @@ public final class PassChain {
       return k >= 0 && k < needed.length ? needed[k] : 0;
     }
 
-    private static long neededAheadOfPlain(Part part, int k, long behind) {
+    private static long neededAheadOfPlain(Part part, int k, long behind, long read) {
       int d = part.written(k);
       if (d < 0) {
-        return behind | readBits(part, k);
+        return behind | read;
       }
       if (part.isHarmless(k) && !isNeeded(d, behind)) {
         return behind;
       }
-      return behind & ~(1L << d) | readBits(part, k);
+      return behind & ~(1L << d) | read;
     }
 
     private static long readBits(Part part, int k) {
@@ -1325,13 +1308,13 @@ public final class PassChain {
     private static final int LINK = 6;
     private static final int NOT_REACHED = -2;
     private static final int LAST = -1;
-    private static final int THINGS_AT_FIRST = 512;
+    private static final int AT_FIRST = 1 << 7;
     // Far above what two walks of SIZE_MOST items hold at once.
     private static final int MOST = 1 << 16;
 
-    private int[] fields = new int[THINGS_AT_FIRST * FIELDS];
-    // A thing's number and 1, or 0; at least half of them are 0 always.
-    private int[] slots = new int[THINGS_AT_FIRST * 2];
+    private int[] fields = new int[AT_FIRST * FIELDS];
+    // A thing's number and 1, or 0; half of them at least are 0, and their number is a power of 2.
+    private int[] slots = new int[AT_FIRST * 2];
     int made;
     int firstReached;
     private int lastReached;
@@ -1535,7 +1518,9 @@ public final class PassChain {
   private static final class Walker {
     private static final int ROWS_A_LEVEL = 3;
 
-    private final Things things;
+    private final Things things = new Things();
+    private final Tale toldBefore = new Tale();
+    private final Tale toldAfter = new Tale();
     // For each IF, WHILE and CALL around, rows to keep registers and the array in.
     private final int[][] kept = new int[LEVELS * ROWS_A_LEVEL][PLACES];
     private final int[] mainPlaces = new int[PLACES];
@@ -1543,22 +1528,19 @@ public final class PassChain {
     private int[] places = mainPlaces;
     private final int[] way = new int[SIZE_MOST];
     private int wayLength;
-    private Tale tale;
-    private Rows rows;
+    private Tale tale = toldBefore;
+    private Rows rows = new Rows();
     private boolean silent;
     private int whiles;
     private int inputs;
 
-    Walker(Things things, Rows rows, Tale tale) {
-      this.things = things;
-      this.rows = rows;
-      this.tale = tale;
-    }
-
-    /** Things made by an earlier walk stay, so that two tales can be compared. */
-    void walk(Rows over, Tale told) {
+    /** The walk after a change keeps the things of the one before, to be compared with them. */
+    void walk(Rows over, boolean isAfter) {
+      if (!isAfter) {
+        things.dropTo(0);
+      }
       rows = over;
-      tale = told;
+      tale = isAfter ? toldAfter : toldBefore;
       tale.clear();
       wayLength = 0;
       silent = false;
@@ -1799,20 +1781,20 @@ public final class PassChain {
       }
     }
 
-    boolean areTheSame(Tale before, Tale after) {
-      if (!before.saysWhat(after)) {
+    boolean saidTheSame() {
+      if (!toldBefore.saysWhat(toldAfter)) {
         return false;
       }
       things.beginReaching();
-      for (int i = 0; i < before.length; i++) {
-        things.reach(before.thingSaid(i));
+      for (int i = 0; i < toldBefore.length; i++) {
+        things.reach(toldBefore.thingSaid(i));
       }
       boolean alike = true;
       int thing = things.firstReached;
       for (int n = 0; alike && things.has(thing) && n < Things.MOST; n++) {
         things.reachFields(thing);
         if (things.kind(thing) == THING_CIRCLING) {
-          alike = circlesAlike(before, after, thing);
+          alike = circlesAlike(thing);
         }
         thing = things.reachedAfter(thing);
       }
@@ -1820,21 +1802,23 @@ public final class PassChain {
     }
 
     /** The circling things that stand in these are looked at, too, as they are reached now. */
-    private boolean circlesAlike(Tale before, Tale after, int thing) {
+    private boolean circlesAlike(int thing) {
       int loop = things.field(thing, 0);
       int place = things.field(thing, 1);
-      int first = before.beganAs(loop, place);
-      int last = before.hadBecome(loop, place);
+      int first = toldBefore.beganAs(loop, place);
+      int last = toldBefore.hadBecome(loop, place);
       things.reach(first);
       things.reach(last);
-      return first == after.beganAs(loop, place) && last == after.hadBecome(loop, place);
+      return first == toldAfter.beganAs(loop, place) && last == toldAfter.hadBecome(loop, place);
     }
   }
 
   /** Code for the stack, made of the rows. */
   private static final class Code {
-    private final int[] letters = new int[CODE_MOST];
-    private final int[] numbers = new int[CODE_MOST];
+    private static final int LETTERS_AT_FIRST = 128;
+
+    private int[] letters = new int[LETTERS_AT_FIRST];
+    private int[] numbers = new int[LETTERS_AT_FIRST];
     int length;
     // For ELSE and END the place of the letter that leads behind it, for WHILE its own.
     private final int[] waiting = new int[ITEMS_MOST];
@@ -1867,6 +1851,10 @@ public final class PassChain {
     }
 
     private void add(int letter, int number) {
+      if (length == letters.length) {
+        letters = Arrays.copyOf(letters, 2 * length);
+        numbers = Arrays.copyOf(numbers, 2 * length);
+      }
       if (length < CODE_MOST) {
         letters[length] = letter;
         numbers[length] = number;
