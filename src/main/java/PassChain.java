@@ -859,7 +859,7 @@ public final class PassChain {
   /** The pass CONSTANTS. */
   private static final class Constants {
     // No int is this.
-    private static final long UNKNOWN = Long.MAX_VALUE;
+    private static final long UNKNOWN = 1L << 32;
 
     private final long[] known = new long[REGISTERS_MOST];
     // For each IF and WHILE around: what was known before (at DO), and behind the former items.

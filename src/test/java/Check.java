@@ -17,6 +17,16 @@ final class Check {
     long answer();
   }
 
+  /** Makes objects, each as the others. */
+  interface Maker {
+    PassChain make();
+  }
+
+  /** A call of some object. */
+  interface Ask {
+    long of(PassChain x);
+  }
+
   static long answerOf(Call call) {
     try {
       return call.answer();
@@ -119,6 +129,60 @@ final class Check {
       told.append(k == 0 ? "" : " ").append(x.out(k));
     }
     return told.toString();
+  }
+
+  private static String seen(PassChain x, int refusedMore) {
+    StringBuilder told = new StringBuilder("counts");
+    for (int what = 0; what < 7; what++) {
+      told.append(' ').append(x.count(what));
+    }
+    told.append(' ').append(x.count(7) - refusedMore);
+    told.append("\n  ").append(program(x)).append("\n  code ").append(code(x));
+    return told.append("\n  printed ").append(printed(x)).toString();
+  }
+
+  /** The registers and items of all parts. */
+  static String program(PassChain x) {
+    StringBuilder told = new StringBuilder();
+    for (int p = 0; p < 4; p++) {
+      told.append("part ").append(p).append(" of ").append(x.size(p, 1)).append(": ");
+      told.append(rows(x, p)).append(' ');
+    }
+    return told.toString();
+  }
+
+  /**
+   * All that an object shows, and then, by calls that change it, what it holds unseen: its input (as far as its
+   * program reads and prints it), the program as it was compiled, and the text.
+   */
+  private static String all(PassChain x, int refusedMore) {
+    StringBuilder told = new StringBuilder(seen(x, refusedMore));
+    told.append("\n  a run ends with ").append(x.run(2000)).append(" behind ").append(x.count(5));
+    told.append(" and prints ").append(printed(x));
+    x.restore();
+    told.append("\n  restored ").append(program(x));
+    told.append("\n  compiled ").append(answerOf(() -> x.compile()));
+    return told.append(' ').append(program(x)).toString();
+  }
+
+  /** A call that is refused, and by which nothing changes. */
+  static void refused(String what, Maker maker, Ask ask, long want) {
+    leaves(what, maker, ask, want, maker);
+  }
+
+  /** A change that does not stay: nothing changes but count 7. */
+  static void doesNotStay(String what, Maker maker, Ask ask, long want) {
+    PassChain x = maker.make();
+    due(what, () -> ask.of(x), want);
+    due(what + ": count 7", x.count(7), maker.make().count(7) + 1);
+    due(what + ": what is left", all(x, 1), all(maker.make(), 0));
+  }
+
+  /** A call behind which an object is just as another one. */
+  static void leaves(String what, Maker maker, Ask ask, long want, Maker other) {
+    PassChain x = maker.make();
+    due(what, () -> ask.of(x), want);
+    due(what + ": what is left", all(x, 0), all(other.make(), 0));
   }
 
   static void end() {
