@@ -37,7 +37,7 @@ public final class RoomTest {
   private static long behind512(String text) throws IllegalAccessException {
     PassChain x = Check.program(text);
     Random random = new Random(text.length());
-    for (int i = 0; i < 512; i++) {
+    for (int i = text.length() + 1; i < 512; i++) {
       int part = random.nextInt(4);
       int k = random.nextInt(60);
       if (i % 3 == 0) {
