@@ -495,7 +495,10 @@ public final class WalkEdgesTest {
     touch("Wa<3{?b;a=a+b;}?c;!c;", 0, 8, 0, 3);
     // One in a WHILE, or behind it, is none of those ahead of it.
     touch("?a;Wb<1{?c;!c;b=b+1;}", 0, 6, 0, 0);
+    touch("?a;?d;Wb<1{?c;!c;b=b+1;}", 0, 7, 0, 0);
+    touch("?a;?d;Wb<1{?c;!c;b=b+1;}", 0, 7, 0, 3);
     touch("?a;Wb<1{b=b+1;}?c;!c;", 0, 10, 0, 0);
+    touch("?a;?d;Wb<1{b=b+1;}?c;!c;", 0, 11, 0, 3);
     touch("?a;Wb<1{?d;b=b+1;}?c;!c;", 0, 11, 0, 0);
     touch("?a;Ia{?c;!c;}{}", 0, 3, 0, 0);
     touch("?a;Ia{}{?c;!c;}", 0, 4, 0, 0);
