@@ -5,6 +5,7 @@ import java.lang.reflect.Method;
 import java.lang.reflect.Modifier;
 import java.nio.file.Files;
 import java.nio.file.Path;
+import java.util.ArrayList;
 import java.util.List;
 import java.util.Set;
 import java.util.TreeSet;
@@ -15,6 +16,22 @@ import java.util.regex.Pattern;
 public final class FaceTest {
   private static final Set<String> FACE = new TreeSet<>(List.of("put", "compile", "pass", "touch", "swap",
       "restore", "size", "item", "code", "feed", "dry", "run", "out", "count"));
+  // As the document writes them, each with its types and the exceptions that it declares.
+  private static final Set<String> WHOLE_FACE = new TreeSet<>(List.of(
+      "boolean put(int, int)",
+      "int compile() throws IllegalArgumentException, IllegalStateException",
+      "int pass(int) throws IllegalArgumentException",
+      "boolean touch(int, int, int, int) throws IllegalArgumentException",
+      "boolean swap(int, int) throws IllegalArgumentException",
+      "void restore()",
+      "int size(int, int)",
+      "int item(int, int, int) throws NoSuchElementException",
+      "int code(int, int) throws NoSuchElementException",
+      "boolean feed(int)",
+      "void dry()",
+      "int run(int) throws IllegalArgumentException",
+      "int out(int) throws NoSuchElementException",
+      "int count(int)"));
 
   public static void main(String[] args) throws IOException {
     face();
@@ -28,19 +45,35 @@ public final class FaceTest {
     Set<String> found = new TreeSet<>();
     for (Method method : PassChain.class.getDeclaredMethods()) {
       if (Modifier.isPublic(method.getModifiers())) {
-        found.add(method.getName());
+        found.add(told(method));
       } else {
         Check.due(method.getName() + " is private", Check.of(Modifier.isPrivate(method.getModifiers())), 1);
       }
     }
-    Check.due("public methods", found.toString(), FACE.toString());
+    Check.due("public methods", String.join("\n  ", found), String.join("\n  ", WHOLE_FACE));
     for (Field field : PassChain.class.getDeclaredFields()) {
       Check.due(field.getName() + " is private", Check.of(Modifier.isPrivate(field.getModifiers())), 1);
     }
     Constructor<?>[] constructors = PassChain.class.getDeclaredConstructors();
     Check.due("constructors", constructors.length, 1);
     Check.due("it is public", Check.of(Modifier.isPublic(constructors[0].getModifiers())), 1);
+    Check.due("it takes nothing", constructors[0].getParameterCount(), 0);
+    Check.due("the class is public", Check.of(Modifier.isPublic(PassChain.class.getModifiers())), 1);
     Check.due("the class is final", Check.of(Modifier.isFinal(PassChain.class.getModifiers())), 1);
+  }
+
+  private static String told(Method method) {
+    String exceptions = namesOf(method.getExceptionTypes());
+    String head = method.getReturnType().getSimpleName() + " " + method.getName();
+    return head + "(" + namesOf(method.getParameterTypes()) + ")" + (exceptions.isEmpty() ? "" : " throws " + exceptions);
+  }
+
+  private static String namesOf(Class<?>[] types) {
+    List<String> names = new ArrayList<>();
+    for (Class<?> type : types) {
+      names.add(type.getSimpleName());
+    }
+    return String.join(", ", names);
   }
 
   private static void classesInside() {
